@@ -120,8 +120,21 @@ public final class PromisesTest {
         due("3: as long as there is room", x.sow(0, 7), 7);
         due("3: weight of the last", x.weightOf(1), 6);
         due("3: no room", x.sow(3, 4), 7);
+        due("3: no room for one", x.sow(3, 1), 7);
         due("3: seed before room", x.sow(-1, 4), -1);
         due("3: count before room", x.sow(3, 0), -2);
+        KnapsackFamily y = new KnapsackFamily();
+        due("3: the least count", y.sow(0, 1), 1);
+        due("3: the least good", y.weightOf(1), 1);
+        due("3: the greatest count", new KnapsackFamily().sow(100, 7), 7);
+        // Seed 1, k = 3: weight 1 + 16, value 66 - 51, supply 1; k = 4: weight 1 + 21 - 20, value 115 - 102, supply 2.
+        KnapsackFamily z = new KnapsackFamily();
+        due("3: five goods", z.sow(1, 5), 5);
+        due("3: weight of good k = 3", z.weightOf(3), 17);
+        due("3: value of good k = 3", z.valueOf(3), 15);
+        due("3: supply of good k = 3", z.weightOf(6), -1);
+        due("3: weight of good k = 4", z.weightOf(2), 4);
+        due("3: value of good k = 4", z.valueOf(2), 26);
     }
 
     private static void promise4Drop() {

@@ -305,6 +305,30 @@ public final class ChangesTest {
         }
     }
 
+    private static void dropIsSeenByEveryQuestion() {
+        Sentences.sentence("Promise 4", "Takes a good out; later ones get numbers less by one.");
+        KnapsackFamily twice = Sentences.limited(Sentences.alike(7, 1, 50, 2), 60);
+        KnapsackFamily once = Sentences.alike(7, 20, 50, 1);
+        for (int left = 6; left >= 0; left--) {
+            String after = " with " + left + " left";
+            due("drop" + after, twice.drop(left / 2), left);
+            due("best" + after, twice.best(), 100 * left);
+            due("bestCode" + after, twice.bestCode(), Sentences.tooLong(left) - 1);
+            due("fitting" + after, twice.fitting(), Sentences.tooLong(left));
+            due("weighing of all" + after, twice.weighing(2 * left), 1);
+            due("weighing of more than all" + after, twice.weighing(2 * left + 1), 0);
+            due("fullest" + after, twice.fullest(), 2 * left);
+            due("lightest of all" + after, twice.lightest(100 * left), 2 * left);
+            due("lightest of more than all" + after, twice.lightest(100 * left + 1), -1);
+            due("two" + after, twice.two(60), 100 * left);
+            due("without" + after, twice.without(0), left == 0 ? -1 : 100 * (left - 1));
+            due("drop of the last" + after, once.drop(left), left);
+            due("halves" + after, once.halves(), left % 2 == 0 ? 1 : 0);
+        }
+        due("bestStrict with none left", twice.bestStrict(), 0);
+        due("bestStrictCode with none left", twice.bestStrictCode(), 0);
+    }
+
     private static void dropOfNoGood() {
         Sentences.sentence("Promise 4", "-1 if i is not good; otherwise answers how many are left.");
         for (int goods = 0; goods <= 7; goods++) {
@@ -381,6 +405,7 @@ public final class ChangesTest {
         sowOrder();
         dropMovesTheLater();
         dropMovesFamilies();
+        dropIsSeenByEveryQuestion();
         dropOfNoGood();
         limitOutside();
         limitSets();

@@ -334,6 +334,19 @@ public final class QuestionsTest {
         due("asked again under nothing", x.two(0), 0);
     }
 
+    private static void twoLeaveOut() {
+        Sentences.sentence("Promise 17", "The greatest value that two choices can have together");
+        int[] dear = {10, 50, 1, 0};
+        int[] cheap = {10, 1, 1, 1};
+        for (int[][] goods : new int[][][] {{dear, cheap}, {cheap, dear}}) {
+            due("room for one in the first", Sentences.limited(Sentences.with(goods), 10).two(0), 50);
+            due("room for one in the second", Sentences.limited(Sentences.with(goods), 0).two(10), 50);
+            due("room for one in the first, nearly two", Sentences.limited(Sentences.with(goods), 19).two(9), 50);
+            due("room for one in the second, nearly two", Sentences.limited(Sentences.with(goods), 9).two(19), 50);
+            due("room for one in each", Sentences.limited(Sentences.with(goods), 10).two(10), 51);
+        }
+    }
+
     private static void twoOutside() {
         Sentences.sentence("Promise 17", "-1 if other is not in 0 .. 60.");
         Sentences.refusedOutside("no goods, other", other -> new KnapsackFamily().two(other), 0, 60, -1);
@@ -444,6 +457,7 @@ public final class QuestionsTest {
         twoLimits();
         twoFromOneSupply();
         twoTogether();
+        twoLeaveOut();
         twoOutside();
         without();
         withoutNoGood();

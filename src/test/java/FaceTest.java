@@ -12,7 +12,7 @@ import java.util.TreeSet;
 import java.util.regex.Matcher;
 import java.util.regex.Pattern;
 
-/** The class has just the public face of the document, and keeps to the rules that can be read off its text. */
+/** The class has just the public face of the document, and keeps to those rules that are easily read off its text. */
 public final class FaceTest {
     /** The document's own lines under "The public face", without the last sign. */
     private static final List<String> FACE = List.of(

@@ -11,7 +11,7 @@ import java.util.regex.Matcher;
 import java.util.regex.Pattern;
 import java.util.stream.Stream;
 
-/** What README.md says of the calls, their answers and the tests is true of the class and of the files beside it. */
+/** The calls in README.md answer as it says, and it names every method of the class and every test of the project. */
 public final class ReadmeTest {
     private static final Path TESTS = Path.of("src/test/java");
     private static final Pattern BLOCK = Pattern.compile("(?ms)^```(\\w*)\n(.*?)^```$");
